@@ -89,7 +89,7 @@ public final class DialTown {
     // ---- towns
 
     public int feed(long w, int n) {
-        if (n < 1 || n > Long.BYTES) {
+        if (n < 1 || n > Tape.MOST_FED) {
             return BAD;
         }
         return tape.hasRoomFor(n) ? tape.append(w, n) : FULL;
@@ -472,6 +472,7 @@ public final class DialTown {
 
     /** The tape, and the runs of like bytes on it. */
     private static final class Tape {
+        static final int MOST_FED = 8;
         private static final int MOST_BYTES = 400, END = -1;
 
         private final int[] bytes = new int[MOST_BYTES];
@@ -512,6 +513,14 @@ public final class DialTown {
                 place++;
             }
             return place;
+        }
+
+        int numberIn(int from, int to) {
+            int told = 0;
+            for (int place = from; place < to && place < length; place++) {
+                told = 10 * told + bytes[place] - '0';
+            }
+            return told;
         }
 
         boolean hasWord(String word, int from, int to) {
@@ -678,7 +687,6 @@ public final class DialTown {
             from = tape.endOfBlanks(next);
             int first = tape.byteAt(from);
             if (first == Tape.END) {
-                next = from;
                 token = END;
             } else if (first >= 'a' && first <= 'z') {
                 next = tape.endOfRun(from, 'a', 'z');
@@ -686,19 +694,11 @@ public final class DialTown {
             } else if (first >= '0' && first <= '9') {
                 next = tape.endOfRun(from, '0', '9');
                 token = next - from > MOST_FIGURES ? NO_TOKEN : NUMBER;
-                number = token == NUMBER ? numberTold() : 0;
+                number = token == NUMBER ? tape.numberIn(from, next) : 0;
             } else {
                 next = from + 1;
                 token = first == ';' ? SIGN : NO_TOKEN;
             }
-        }
-
-        private int numberTold() {
-            int told = 0;
-            for (int place = from; place < next; place++) {
-                told = 10 * told + tape.byteAt(place) - '0';
-            }
-            return told;
         }
     }
 

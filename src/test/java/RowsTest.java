@@ -10,6 +10,7 @@ public final class RowsTest {
         itemsAreCopied();
         copiesAreRefused();
         rowsAreDropped();
+        statusIsOfTheLatest();
         statusLasts();
         due.end();
     }
@@ -171,6 +172,23 @@ public final class RowsTest {
         x.row(4, 1, 0);
         due.is("drop of none", x.drop(4), 0);
         due.is("status", x.status(), 0);
+    }
+
+    private static void statusIsOfTheLatest() {
+        DialTown x = new DialTown();
+        x.row(0, 0, 3);
+        x.set(0, 3, 1);
+        due.is("status after a place", x.status(), 2);
+        x.set(0, 2, 1);
+        due.is("status after a set", x.status(), 0);
+        x.set(0, 3, 1);
+        x.copy(0, 0, 0, 1, 2);
+        due.is("status after a copy", x.status(), 0);
+        x.set(0, 3, 1);
+        x.drop(0);
+        due.is("status after a drop", x.status(), 0);
+        x.drop(0);
+        due.is("status after a drop of none", x.status(), 1);
     }
 
     private static void statusLasts() {

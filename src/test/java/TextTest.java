@@ -51,6 +51,12 @@ public final class TextTest {
         due.is("fault of blanks", x.fault(), 1);
         due.is("empty after a fault", x.count(5), 0);
         due.is("feed again", x.feed(0x20, 1), 1);
+        fails("tower 4 4 4;" + "w".repeat(388), 1, 12);
+        fails("tower 4 4 4;" + " ".repeat(384) + "wall", 1, 400);
+        fails("tower 4 4 4;" + " ".repeat(382) + "wall 1", 1, 400);
+        fails("tower 4 4 4;" + "9".repeat(388), 1, 12);
+        fits(" ".repeat(388) + "tower 4 4 4;", 0);
+        fits("tower 4 4 4;" + "\n".repeat(388), 0);
     }
 
     private static void townsAreRead() {
@@ -95,6 +101,17 @@ public final class TextTest {
         fails("Tower 4 4 4;", 1, 0);
         fails("towers 4 4 4;", 1, 0);
         fails("towe 4 4 4;", 1, 0);
+        fails("mower 4 4 4;", 1, 0);
+        fails("tower 4 4 4,", 1, 11);
+        fails(TOWER + "ball 1 1;", 1, 12);
+        fails(TOWER + "wall 1 1:", 1, 20);
+        fails(TOWER + "stop dark 1 1 1;", 1, 12);
+        fails(TOWER + "shop bark 1 1 1;", 1, 17);
+        fails(TOWER + "shop funny 1 1 1;", 1, 17);
+        fails(TOWER + "shop moon 1 1 1;", 1, 17);
+        fails(TOWER + "shop mast 1 1 1;", 1, 17);
+        fails(TOWER + "shop damp 1 1 1;", 1, 17);
+        fails(TOWER + "shop lam 1 1 1;", 1, 17);
         fails("towerwall 4 4 4;", 1, 0);
         fails("wall 1 1;", 1, 0);
         fails("shop dark 1 1 1;", 1, 0);
@@ -180,6 +197,14 @@ public final class TextTest {
         fails(shops + "shops", 1, 140);
         fails(shops + "wall 0 8;", 1, 140);
         fails(same + shops.substring(12), 2, 192 + 12);
+        String all = "tower 8 8 1;" + "wall 8 0;".repeat(20) + shops.substring(12);
+        fits(all, 8);
+        fails(all + "shop lamp 7 7 7;", 3, 320);
+        fails(all + "wall 7 7;", 1, 320);
+        fails(all + ";", 1, 320);
+        DialTown x = Due.of(all);
+        due.is("as many walls again", Due.read(x, all), 8);
+        due.is("one wall", x.count(2), 1);
     }
 
     private static void faultsKeepTheTown() {
@@ -218,6 +243,7 @@ public final class TextTest {
         x.draw(1, 100);
         x.row(1, 2, 3);
         x.image(0);
+        x.leans(0, 1, 1);
         due.is("another town", Due.read(x, "tower 4 4 4; shop dark 4 3 7;"), 1);
         due.is("walls", x.count(2), 0);
         due.is("clouds", x.count(3), 0);

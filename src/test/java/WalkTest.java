@@ -156,6 +156,7 @@ public final class WalkTest {
         due.is("in one slot", x.thief(31, 30, 31, 30), 1);
         due.is("straight", x.thief(0, 0, 8, 8), 2);
         due.is("too fast", x.thief(0, 0, 8, 7), Due.NONE);
+        due.is("too fast in the afternoon", x.thief(0, 40, 8, 47), Due.NONE);
         due.is("with a step to spare", x.thief(1, 10, 2, 12), 0);
         due.is("with two more", x.thief(1, 10, 2, 13), 2);
         due.is("dark and mass", x.thief(31, 28, 79, 36), 5);
