@@ -55,9 +55,39 @@ final class Due {
     }
 
     static void row(DialTown x, int row, int... items) {
-        x.row(row, 2, items.length);
+        rowOf(x, row, 2, items);
+    }
+
+    static void rowOf(DialTown x, int row, int lane, int... items) {
+        x.row(row, lane, items.length);
         for (int i = 0; i < items.length; i++) {
             x.set(row, i, items[i]);
+        }
+    }
+
+    /**
+     * The way that an item tells, 0 to 4, or NONE: each way is tried from the middle of the four sides of a
+     * town without walls whose tower is inside; only one that leads off the town cannot be.
+     */
+    static int wayAt(DialTown x, int row, int i) {
+        int[] middles = {4, 44, 76, 36};
+        int stopped = 0;
+        for (int side = 0; side < middles.length; side++) {
+            stopped |= x.check(middles[side], 0, row, i, 1, 0) << side;
+        }
+        switch (stopped) {
+            case 0: return 4;
+            case 1: return 0;
+            case 2: return 1;
+            case 4: return 2;
+            case 8: return 3;
+            default: return NONE;
+        }
+    }
+
+    void ways(String name, DialTown x, int row, int... ways) {
+        for (int i = 0; i < ways.length; i++) {
+            is(name + ": item " + i, wayAt(x, row, i), ways[i]);
         }
     }
 }

@@ -22,6 +22,9 @@ public final class ModelTest {
     private int season = 1;
     private int leanEast;
     private int leanNorth;
+    private int seed;
+    private int percent;
+    private int drawn;
 
     private ModelTest(long seed) {
         random = new Random(seed);
@@ -36,11 +39,12 @@ public final class ModelTest {
     }
 
     private void compare(String name) {
-        DialTown x = tell();
-        weather(x);
-        geometry(x, name);
-        rents(x, name);
-        places(x, name);
+        tell();
+        weather();
+        geometry(name);
+        rents(town(), name);
+        places(town(), name);
+        DialTown x = town();
         for (int i = 0; i < 12; i++) {
             errand(x, name);
             thief(x, name);
@@ -48,7 +52,16 @@ public final class ModelTest {
         }
     }
 
-    private DialTown tell() {
+    /** A new object each time, since one answers 512 calls. */
+    private DialTown town() {
+        DialTown x = Due.of(text.toString());
+        x.season(season);
+        x.lean(leanEast, leanNorth);
+        due.is("draw", x.draw(seed, percent), drawn);
+        return x;
+    }
+
+    private void tell() {
         tower = random.nextInt(81);
         reach = 1 + random.nextInt(8);
         ground[tower] = 'T';
@@ -66,7 +79,6 @@ public final class ModelTest {
                 addShop(random.nextInt(5), cell, random.nextInt(100));
             }
         }
-        return Due.of(text.toString());
     }
 
     private int nearTower() {
@@ -85,22 +97,18 @@ public final class ModelTest {
             .append(rent).append(';');
     }
 
-    private void weather(DialTown x) {
+    private void weather() {
         season = 1 + random.nextInt(6);
         leanEast = random.nextInt(7) - 3;
         leanNorth = random.nextInt(7) - 3;
-        x.season(season);
-        x.lean(leanEast, leanNorth);
-        int seed = 1 + random.nextInt(999999);
-        int p = random.nextInt(40);
+        seed = 1 + random.nextInt(999999);
+        percent = random.nextInt(40);
         long rest = seed;
-        int drawn = 0;
         for (int slot = 0; slot <= 72; slot++) {
             rest = Math.floorMod(rest * 16807, 2147483647L);
-            clouds[slot] = rest % 100 < p;
+            clouds[slot] = rest % 100 < percent;
             drawn += clouds[slot] ? 1 : 0;
         }
-        due.is("draw", x.draw(seed, p), drawn);
     }
 
     private boolean[] shadow(int slot, int ofSeason, int east, int north) {
@@ -144,8 +152,9 @@ public final class ModelTest {
         return clouds[slot] ? 0 : openShops(slot, season, leanEast, leanNorth);
     }
 
-    private void geometry(DialTown x, String name) {
+    private void geometry(String name) {
         for (int slot = 0; slot <= 72; slot += 1 + random.nextInt(6)) {
+            DialTown x = town();
             boolean[] dark = shadow(slot, season, leanEast, leanNorth);
             for (int cell = 0; cell < 81; cell++) {
                 due.is(name + "shadow(" + slot + ", " + cell + ")", x.shadow(slot, cell), dark[cell] ? 1 : 0);

@@ -6,6 +6,8 @@ import java.util.Random;
  */
 public final class StormTest {
     private static final int CALLS = 512;
+    /** More than one call of words() can feed. */
+    private static final int MOST_OF_WORDS = 40;
     private static final int[] WILD = {Integer.MIN_VALUE, Integer.MAX_VALUE, -1, 0, 1, 2, 5, 6, 7, 8, 9, 36, 39, 40,
         41, 71, 72, 73, 80, 81, 99, 100, 101, 255, 256, 400, -1000000, 1 << 31 - 1};
     private static final String[] WORDS = {"tower", "wall", "shop", "dark", "sunny", "noon", "mass", "lamp", ";", " ",
@@ -16,6 +18,8 @@ public final class StormTest {
     private final Random random;
     private DialTown x = new DialTown();
     private String call = "";
+    /** How many calls the object has answered. */
+    private int asked;
     /** Of a call of set(): an item of ints may look like a refusal. */
     private boolean isAnyNumber;
 
@@ -34,7 +38,9 @@ public final class StormTest {
 
     private void calls(String name) {
         x = new DialTown();
-        for (int i = 0; i < CALLS; i++) {
+        asked = 0;
+        while (asked < CALLS - MOST_OF_WORDS) {
+            asked++;
             try {
                 int answer = call();
                 due.is(name + call + " is an answer: " + answer, isAnyNumber || isAnswer(answer) ? 1 : 0, 1);
@@ -150,6 +156,7 @@ public final class StormTest {
         }
         int fed = x.count(5) == 0 ? Due.feed(x, "tower 4 4 4;") : 0;
         Due.feed(x, text.toString());
+        asked += 4 + text.length() / 8;
         return random.nextBoolean() ? x.town() : fed;
     }
 }

@@ -1,4 +1,4 @@
-/** Promises 9 to 17: season, lean, clouds, shops more and undone, the shadow, what is open, rents. */
+/** Promises 9 to 14, 16 and 17: season, lean, clouds, shops more and undone, what is open, rents. */
 public final class TownTest {
     private static final int MIN = Integer.MIN_VALUE, MAX = Integer.MAX_VALUE;
     private static final Due due = new Due();
@@ -11,9 +11,6 @@ public final class TownTest {
         draws();
         shopsMore();
         shopsUndone();
-        shadows();
-        shadowsEnd();
-        shadowsLean();
         shopsOpen();
         rents();
         due.end();
@@ -140,77 +137,6 @@ public final class TownTest {
         due.is("no more", x.undo(), Due.STATE);
         due.is("count(1)", x.count(1), 0);
         due.is("open", x.open(36), 0);
-    }
-
-    /** The way east of tower 4 4 4 is that of (slot less 36) by 9; season 1 is 1 north. */
-    private static void shadows() {
-        DialTown x = Due.of("tower 4 4 4;");
-        isShadow(x, 0, 40, 39, 38, 37, 27);
-        isShadow(x, 1, 40, 39, 38, 28);
-        isShadow(x, 9, 40, 39, 38, 28);
-        isShadow(x, 10, 40, 39, 29);
-        isShadow(x, 18, 40, 39, 29);
-        isShadow(x, 27, 40, 30);
-        isShadow(x, 28, 40, 31);
-        isShadow(x, 36, 40, 31);
-        isShadow(x, 44, 40, 31);
-        isShadow(x, 45, 40, 32);
-        isShadow(x, 54, 40, 41, 33);
-        isShadow(x, 72, 40, 41, 42, 43, 35);
-        x.season(3);
-        isShadow(x, 0, 40, 39, 29, 19, 9);
-        isShadow(x, 18, 40, 31, 21, 11);
-        isShadow(x, 36, 40, 31, 22, 13);
-        x.season(6);
-        isShadow(x, 36, 40, 31, 22, 13, 4);
-        isShadow(x, 72, 40, 31, 23, 15, 6);
-        int[][] bad = {{-1, 0}, {73, 0}, {0, -1}, {0, 81}, {MIN, 0}, {MAX, 0}, {0, MIN}, {0, MAX}};
-        for (int[] a : bad) {
-            due.is("bad shadow", x.shadow(a[0], a[1]), Due.BAD);
-        }
-    }
-
-    private static void shadowsEnd() {
-        DialTown x = Due.of("tower 4 4 8; wall 2 4; wall 4 3; shop dark 6 4 1;");
-        // 8 west, 1 north at slot 0: 39, then the wall at 38
-        isShadow(x, 0, 40, 39);
-        isShadow(x, 36, 40);
-        // 8 east: through the shop, up to the town's end
-        isShadow(x, 72, 40, 41, 42, 43, 44);
-        DialTown corner = Due.of("tower 0 0 8;");
-        isShadow(corner, 36, 0);
-        isShadow(corner, 0, 0);
-        // 8 east and 1 north: north of the town from the eighth on
-        isShadow(corner, 72, 0, 1, 2, 3, 4, 5, 6, 7);
-        DialTown edge = Due.of("tower 0 8 8;");
-        isShadow(edge, 72, 72, 73, 74, 75, 76, 77, 78, 79, 71);
-    }
-
-    private static void shadowsLean() {
-        DialTown x = Due.of("tower 4 4 4;");
-        x.lean(0, -1);
-        isShadow(x, 36, 40);
-        isShadow(x, 45, 40, 41);
-        x.lean(0, -3);
-        isShadow(x, 36, 40, 49, 58);
-        x.lean(-3, 0);
-        isShadow(x, 36, 40, 39, 38, 28);
-        isShadow(x, 63, 40, 31);
-        x.lean(3, 3);
-        isShadow(x, 36, 40, 31, 23, 15, 7);
-        isShadow(x, 72, 40, 41, 33, 34, 26);
-        x.lean(3, -3);
-        isShadow(x, 72, 40, 41, 42, 43, 53);
-    }
-
-    private static void isShadow(DialTown x, int slot, int... cells) {
-        for (int cell = 0; cell < 81; cell++) {
-            int want = 0;
-            for (int c : cells) {
-                want = c == cell ? 1 : want;
-            }
-            due.is("shadow(" + slot + ", " + cell + ")", x.shadow(slot, cell), want);
-        }
     }
 
     private static void shopsOpen() {
