@@ -26,6 +26,7 @@ public final class FaultBoundsTest {
         theLatestFault();
         aFaultKeepsTheTown();
         aTownStandsInPlaceOfTheOneBefore();
+        aTownIsReadAfterQuestions();
         due.end();
     }
 
@@ -395,6 +396,32 @@ public final class FaultBoundsTest {
         due.is("image 0", x.restore(0), 1);
         due.is("its season", x.count(4), 1);
         due.is("its clouds", x.count(3), 0);
+    }
+
+    /** Questions by another season, lean or weather leave nothing for the town that is read next. */
+    private static void aTownIsReadAfterQuestions() {
+        DialTown x = Due.of("tower 4 4 4;wall 0 0;shop dark 4 3 7;shop lamp 8 8 7;");
+        x.lean(2, 2);
+        x.draw(1, 100);
+        x.leans(0, 3, -3);
+        x.bills(36, 3);
+        x.shop(0, 4);
+        x.leans(1, -3, 3);
+        due.is("another town", Due.read(x, "tower 4 4 4;shop dark 4 3 7;"), 1);
+        due.is("clouds", x.count(3), 0);
+        due.is("walls", x.count(2), 0);
+        due.is("season", x.count(4), 1);
+        due.is("no lean", x.shadow(36, 31), 1);
+        due.is("slots without a lean", x.shop(0, 2), 17);
+        due.is("a year without a lean", x.shop(0, 4), 7 * 322);
+        due.is("the wall's cell is free", x.more(1, 0, 0), 1);
+        due.is("the shop's cell is free", x.more(1, 80, 0), 2);
+        x.lean(2, 2);
+        x.leans(0, 1, 1);
+        due.is("a fault", Due.read(x, "tower 0 0 8;wall 4 3"), -1000120);
+        due.is("the lean stays", x.leans(0, 2, 2), 0);
+        due.is("the shops stay", x.count(1), 3);
+        due.is("no wall came", x.count(2), 0);
     }
 
     private static void fits(String text, int answer) {

@@ -37,6 +37,8 @@ public final class WalkBoundsTest {
         thiefBetween();
         thiefEachShopAlone();
         thiefBehindWalls();
+        thiefOfEight();
+        shopsThatAreGone();
         due.end();
     }
 
@@ -472,5 +474,39 @@ public final class WalkBoundsTest {
         DialTown wall = Due.of(TOWER + "wall 1 8;wall 1 7;");
         due.is("about two walls in five", wall.thief(72, 0, 74, 5), Due.NONE);
         due.is("about two walls in six", wall.thief(72, 0, 74, 6), 0);
+    }
+
+    private static void thiefOfEight() {
+        DialTown x = Due.of(sunnyLine(8));
+        due.is("all of eight", x.thief(72, 0, 79, 7), 255);
+        due.is("all of eight, back", x.thief(79, 0, 72, 7), 255);
+        due.is("there and back", x.thief(72, 0, 72, 13), 127);
+        due.is("the last alone", x.thief(79, 9, 79, 9), 128);
+        Due.row(x, 0, 1, 1, 1, 1, 1, 1, 1);
+        due.is("a walk by all of eight", x.check(72, 0, 0, 0, 7, 1), 255);
+    }
+
+    /** Promise 14: a shop undone is gone for walkers, too; also one that an image did not keep. */
+    private static void shopsThatAreGone() {
+        DialTown x = Due.of(sunnyLine(2));
+        Due.row(x, 0, 1, 1);
+        x.image(0);
+        x.more(1, 74, 1);
+        due.is("three shops by a walk", x.check(72, 0, 0, 0, 2, 1), 7);
+        for (int time = 0; time < 2; time++) {
+            if (time == 0) {
+                x.undo();
+            } else {
+                x.more(1, 74, 1);
+                x.restore(0);
+            }
+            due.is("two shops by a walk", x.check(72, 0, 0, 0, 2, 1), 3);
+            due.is("two shops by a thief", x.thief(72, 0, 74, 2), 3);
+            due.is("two shops for errands", x.soonest(72, 0, 3), 1);
+            due.is("no third one", x.soonest(72, 0, 4), Due.BAD);
+            due.is("no third one by bills", x.bills(36, 4), Due.BAD);
+            due.is("two shops by bills", x.bills(36, 3), 126);
+            due.is("two shops open", x.open(36), 3);
+        }
     }
 }
